@@ -1,0 +1,62 @@
+import java.util.ArrayList;
+import java.util.List;
+import java.util.function.Consumer;
+import java.util.function.ToIntFunction;
+
+/** Counts and prints the answers that are not as due, and ends the test with exit code 1 if there were any. */
+final class Check {
+    private static int asked = 0;
+    private static int wrong = 0;
+
+    private Check() {
+    }
+
+    static void due(String call, Object got, Object want) {
+        asked++;
+        if (!want.equals(got)) {
+            wrong++;
+            System.out.println(call + " answered " + got + ", due is " + want);
+        }
+    }
+
+    static boolean allAsDue() {
+        return wrong == 0;
+    }
+
+    /** A twin that never saw the call stands for "before": an object may take 512 calls only. */
+    static void refused(String call, Consumer<SuperpageReserve> setup, ToIntFunction<SuperpageReserve> refusedCall, int code) {
+        SuperpageReserve tried = new SuperpageReserve();
+        SuperpageReserve twin = new SuperpageReserve();
+        setup.accept(tried);
+        setup.accept(twin);
+        due(call, refusedCall.applyAsInt(tried), code);
+        due("everything seen after " + call, seen(tried), seen(twin));
+    }
+
+    /** Everything that can be seen of an object, in 181 calls. */
+    static List<Integer> seen(SuperpageReserve x) {
+        List<Integer> all = new ArrayList<>();
+        for (int p = 0; p < 2; p++) {
+            all.add(x.present(p));
+            all.add(x.digest(p));
+            for (int v = 0; v < 16; v++) {
+                all.add(x.state(p, v));
+                for (int w = 0; w < 4; w++) {
+                    all.add(x.read(p, v, w));
+                }
+            }
+        }
+        for (int v = 0; v < 16; v++) {
+            all.add(x.shared(v) ? 1 : 0);
+        }
+        all.add(x.inUse());
+        return all;
+    }
+
+    static void end() {
+        System.out.println((asked - wrong) + " answers as due, " + wrong + " not");
+        if (wrong != 0 || asked == 0) {
+            System.exit(1);
+        }
+    }
+}
