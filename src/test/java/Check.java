@@ -7,15 +7,21 @@ import java.util.function.ToIntFunction;
 final class Check {
     private static int asked = 0;
     private static int wrong = 0;
+    private static String sentence = "";
 
     private Check() {
+    }
+
+    /** Names the sentence of the document that the answers from here on belong to. */
+    static void about(String words) {
+        sentence = "[" + words + "] ";
     }
 
     static void due(String call, Object got, Object want) {
         asked++;
         if (!want.equals(got)) {
             wrong++;
-            System.out.println(call + " answered " + got + ", due is " + want);
+            System.out.println(sentence + call + " answered " + got + ", due is " + want);
         }
     }
 
@@ -24,13 +30,10 @@ final class Check {
     }
 
     /** A twin that never saw the call stands for "before": an object may take 512 calls only. */
-    static void refused(String call, Consumer<SuperpageReserve> setup, ToIntFunction<SuperpageReserve> refusedCall, int code) {
-        SuperpageReserve tried = new SuperpageReserve();
-        SuperpageReserve twin = new SuperpageReserve();
-        setup.accept(tried);
-        setup.accept(twin);
-        due(call, refusedCall.applyAsInt(tried), code);
-        due("everything seen after " + call, seen(tried), seen(twin));
+    static void unchanged(String call, Consumer<SuperpageReserve> setup, ToIntFunction<SuperpageReserve> tested, int answer) {
+        SuperpageReserve tried = Setups.made(setup);
+        due(call, tested.applyAsInt(tried), answer);
+        due("everything seen after " + call, seen(tried), seen(Setups.made(setup)));
     }
 
     /** Everything that can be seen of an object, in 181 calls. */

@@ -79,7 +79,7 @@ public final class ModelTest {
             got = x.copy(p, v, u);
             want = model.copy(p, v, u);
         } else if (kind < 36) {
-            int to = v + below(3);
+            int to = below(2) == 0 ? u : v + below(3);
             call = "unmapRange(" + p + ", " + v + ", " + to + ")";
             got = x.unmapRange(p, v, to);
             want = model.unmapRange(p, v, to);

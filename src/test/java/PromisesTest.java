@@ -7,10 +7,6 @@ public final class PromisesTest {
     private static final int ABSENT = -3;
     private static final int READ_ONLY = -4;
 
-    private static final int[] WRONG_PROCESSES = {-1, 2, Integer.MIN_VALUE, Integer.MAX_VALUE};
-    private static final int[] WRONG_PAGES = {-1, 16, 17, 31, Integer.MIN_VALUE, Integer.MAX_VALUE};
-    private static final int[] WRONG_WORDS = {-1, 4, 5, Integer.MIN_VALUE, Integer.MAX_VALUE};
-
     public static void main(String[] args) {
         promise1NewObject();
         promise2Touch();
@@ -62,21 +58,21 @@ public final class PromisesTest {
         Check.due("the state after unmap and touch", x.state(1, 15), 1);
 
         SuperpageReserve full = new SuperpageReserve();
-        fill(full);
+        Setups.fill(full);
         Check.due("touch of a present page when full", full.touch(0, 7), 0);
         x = new SuperpageReserve();
-        fillSharing(x);
+        Setups.fillSharing(x);
         Check.due("touch of a shared page when full", x.touch(1, 0), 0);
         Check.due("whether touch leaves it shared", x.shared(0), true);
 
-        Check.refused("touch when full", PromisesTest::fill, y -> y.touch(0, 8), FULL);
-        Check.refused("touch in process 1 when full", PromisesTest::fill, y -> y.touch(1, 15), FULL);
-        for (int p : WRONG_PROCESSES) {
-            Check.refused("touch of process " + p, PromisesTest::fill, y -> y.touch(p, 0), BAD_ARG);
+        Check.unchanged("touch when full", Setups::fill, y -> y.touch(0, 8), FULL);
+        Check.unchanged("touch in process 1 when full", Setups::fill, y -> y.touch(1, 15), FULL);
+        for (int p : Setups.WRONG_PROCESSES) {
+            Check.unchanged("touch of process " + p, Setups::fill, y -> y.touch(p, 0), BAD_ARG);
         }
-        for (int v : WRONG_PAGES) {
-            Check.refused("touch of page " + v, PromisesTest::fill, y -> y.touch(0, v), BAD_ARG);
-            Check.refused("touch of page " + v + " of process 1", PromisesTest::fill, y -> y.touch(1, v), BAD_ARG);
+        for (int v : Setups.WRONG_PAGES) {
+            Check.unchanged("touch of page " + v, Setups::fill, y -> y.touch(0, v), BAD_ARG);
+            Check.unchanged("touch of page " + v + " of process 1", Setups::fill, y -> y.touch(1, v), BAD_ARG);
         }
     }
 
@@ -96,7 +92,7 @@ public final class PromisesTest {
         Check.due("write after the page is writable again", x.write(0, 4, 1, 3), 0);
 
         SuperpageReserve full = new SuperpageReserve();
-        fill(full);
+        Setups.fill(full);
         Check.due("write to an own page when full", full.write(1, 7, 3, 99), 0);
         Check.due("the word written when full", full.read(1, 7, 3), 99);
     }
@@ -127,7 +123,7 @@ public final class PromisesTest {
 
         // The fifteenth page leaves just the one frame that the end of a sharing needs.
         SuperpageReserve last = new SuperpageReserve();
-        touchFirst(last, 0, 15);
+        Setups.touchFirst(last, 0, 15);
         last.split(0);
         Check.due("write to a shared page for the last frame", last.write(1, 3, 0, 1), 0);
         Check.due("inUse then", last.inUse(), 16);
@@ -136,28 +132,28 @@ public final class PromisesTest {
     }
 
     private static void promise3WriteRefused() {
-        Check.refused("write to an absent page when full", PromisesTest::fill, y -> y.write(0, 8, 0, 1), FULL);
-        Check.refused("write to a shared page when full", PromisesTest::fillSharing, y -> y.write(0, 0, 0, 1), FULL);
-        Check.refused("process 1's write to a shared page when full", PromisesTest::fillSharing, y -> y.write(1, 15, 3, 1), FULL);
-        Check.refused("write to a read-only page", y -> {
+        Check.unchanged("write to an absent page when full", Setups::fill, y -> y.write(0, 8, 0, 1), FULL);
+        Check.unchanged("write to a shared page when full", Setups::fillSharing, y -> y.write(0, 0, 0, 1), FULL);
+        Check.unchanged("process 1's write to a shared page when full", Setups::fillSharing, y -> y.write(1, 15, 3, 1), FULL);
+        Check.unchanged("write to a read-only page", y -> {
             y.touch(0, 1);
             y.protect(0, 1, 1);
         }, y -> y.write(0, 1, 0, 1), READ_ONLY);
-        Check.refused("write to a read-only shared page", PromisesTest::shareReadOnly, y -> y.write(1, 2, 0, 1), READ_ONLY);
-        Check.refused("write to a read-only shared page when full", y -> {
-            fillSharing(y);
+        Check.unchanged("write to a read-only shared page", Setups::shareReadOnly, y -> y.write(1, 2, 0, 1), READ_ONLY);
+        Check.unchanged("write to a read-only shared page when full", y -> {
+            Setups.fillSharing(y);
             y.protect(0, 2, 1);
         }, y -> y.write(0, 2, 0, 1), READ_ONLY);
-        for (int p : WRONG_PROCESSES) {
-            Check.refused("write to process " + p, PromisesTest::fill, y -> y.write(p, 0, 0, 1), BAD_ARG);
+        for (int p : Setups.WRONG_PROCESSES) {
+            Check.unchanged("write to process " + p, Setups::fill, y -> y.write(p, 0, 0, 1), BAD_ARG);
         }
-        for (int v : WRONG_PAGES) {
-            Check.refused("write to page " + v, PromisesTest::fill, y -> y.write(0, v, 0, 1), BAD_ARG);
+        for (int v : Setups.WRONG_PAGES) {
+            Check.unchanged("write to page " + v, Setups::fill, y -> y.write(0, v, 0, 1), BAD_ARG);
         }
-        for (int w : WRONG_WORDS) {
-            Check.refused("write to word " + w, PromisesTest::fill, y -> y.write(0, 1, w, 1), BAD_ARG);
-            Check.refused("write to word " + w + " of an absent page when full", PromisesTest::fill, y -> y.write(1, 9, w, 1), BAD_ARG);
-            Check.refused("write to word " + w + " of a read-only page", PromisesTest::shareReadOnly, y -> y.write(0, 2, w, 1), BAD_ARG);
+        for (int w : Setups.WRONG_WORDS) {
+            Check.unchanged("write to word " + w, Setups::fill, y -> y.write(0, 1, w, 1), BAD_ARG);
+            Check.unchanged("write to word " + w + " of an absent page when full", Setups::fill, y -> y.write(1, 9, w, 1), BAD_ARG);
+            Check.unchanged("write to word " + w + " of a read-only page", Setups::shareReadOnly, y -> y.write(0, 2, w, 1), BAD_ARG);
         }
     }
 
@@ -171,14 +167,14 @@ public final class PromisesTest {
         for (int i = 0; i < 64; i++) {
             Check.due("read of word " + i, x.read(i % 2, i / 8, i / 2 % 4), 1000 + i);
         }
-        for (int p : WRONG_PROCESSES) {
-            Check.refused("read of process " + p, PromisesTest::fill, y -> y.read(p, 1, 1), 0);
+        for (int p : Setups.WRONG_PROCESSES) {
+            Check.unchanged("read of process " + p, Setups::fill, y -> y.read(p, 1, 1), 0);
         }
-        for (int v : WRONG_PAGES) {
-            Check.refused("read of page " + v, PromisesTest::fill, y -> y.read(0, v, 1), 0);
+        for (int v : Setups.WRONG_PAGES) {
+            Check.unchanged("read of page " + v, Setups::fill, y -> y.read(0, v, 1), 0);
         }
-        for (int w : WRONG_WORDS) {
-            Check.refused("read of word " + w, PromisesTest::fill, y -> y.read(0, 1, w), 0);
+        for (int w : Setups.WRONG_WORDS) {
+            Check.unchanged("read of word " + w, Setups::fill, y -> y.read(0, 1, w), 0);
         }
         x.protect(0, 1, 1);
         Check.due("read of a read-only page", x.read(0, 1, 0), 1008);
@@ -201,7 +197,7 @@ public final class PromisesTest {
 
         for (int p = 0; p < 2; p++) {
             SuperpageReserve y = new SuperpageReserve();
-            shareReadOnly(y);
+            Setups.shareReadOnly(y);
             Check.due("unmap of a shared page", y.unmap(p, 2), 0);
             Check.due("its state then", y.state(p, 2), 0);
             Check.due("shared then", y.shared(2), false);
@@ -213,17 +209,17 @@ public final class PromisesTest {
             Check.due("shared after touch", y.shared(2), false);
         }
         SuperpageReserve full = new SuperpageReserve();
-        fill(full);
+        Setups.fill(full);
         Check.due("unmap when full", full.unmap(1, 0), 0);
         Check.due("touch of another page then", full.touch(0, 15), 1);
         Check.due("touch of one more", full.touch(0, 14), FULL);
 
-        Check.refused("unmap of an absent page", PromisesTest::fill, y -> y.unmap(1, 8), ABSENT);
-        for (int p : WRONG_PROCESSES) {
-            Check.refused("unmap of process " + p, PromisesTest::fill, y -> y.unmap(p, 0), BAD_ARG);
+        Check.unchanged("unmap of an absent page", Setups::fill, y -> y.unmap(1, 8), ABSENT);
+        for (int p : Setups.WRONG_PROCESSES) {
+            Check.unchanged("unmap of process " + p, Setups::fill, y -> y.unmap(p, 0), BAD_ARG);
         }
-        for (int v : WRONG_PAGES) {
-            Check.refused("unmap of page " + v, PromisesTest::fill, y -> y.unmap(0, v), BAD_ARG);
+        for (int v : Setups.WRONG_PAGES) {
+            Check.unchanged("unmap of page " + v, Setups::fill, y -> y.unmap(0, v), BAD_ARG);
         }
     }
 
@@ -245,7 +241,7 @@ public final class PromisesTest {
         }
         for (int p = 0; p < 2; p++) {
             SuperpageReserve y = new SuperpageReserve();
-            shareReadOnly(y);
+            Setups.shareReadOnly(y);
             Check.due("protect off of a shared page", y.protect(p, 2, 0), 1);
             Check.due("its own state", y.state(p, 2), 1);
             Check.due("the other's state", y.state(1 - p, 2), 2);
@@ -253,13 +249,13 @@ public final class PromisesTest {
             Check.due("protect on of a shared page", y.protect(p, 3, 1), 0);
             Check.due("the other's state there", y.state(1 - p, 3), 1);
         }
-        Check.refused("protect of an absent page", PromisesTest::fill, y -> y.protect(0, 8, 1), ABSENT);
-        Check.refused("protect off of an absent page", PromisesTest::fill, y -> y.protect(0, 8, 0), ABSENT);
-        for (int p : WRONG_PROCESSES) {
-            Check.refused("protect of process " + p, PromisesTest::fill, y -> y.protect(p, 0, 1), BAD_ARG);
+        Check.unchanged("protect of an absent page", Setups::fill, y -> y.protect(0, 8, 1), ABSENT);
+        Check.unchanged("protect off of an absent page", Setups::fill, y -> y.protect(0, 8, 0), ABSENT);
+        for (int p : Setups.WRONG_PROCESSES) {
+            Check.unchanged("protect of process " + p, Setups::fill, y -> y.protect(p, 0, 1), BAD_ARG);
         }
-        for (int v : WRONG_PAGES) {
-            Check.refused("protect of page " + v, PromisesTest::fill, y -> y.protect(0, v, 1), BAD_ARG);
+        for (int v : Setups.WRONG_PAGES) {
+            Check.unchanged("protect of page " + v, Setups::fill, y -> y.protect(0, v, 1), BAD_ARG);
         }
     }
 
@@ -273,21 +269,21 @@ public final class PromisesTest {
         Check.due("state of an absent page", x.state(0, 15), 0);
         x.unmap(1, 15);
         Check.due("state of a page made absent", x.state(1, 15), 0);
-        for (int p : WRONG_PROCESSES) {
-            Check.refused("state of process " + p, PromisesTest::fill, y -> y.state(p, 0), BAD_ARG);
+        for (int p : Setups.WRONG_PROCESSES) {
+            Check.unchanged("state of process " + p, Setups::fill, y -> y.state(p, 0), BAD_ARG);
         }
-        for (int v : WRONG_PAGES) {
-            Check.refused("state of page " + v, PromisesTest::fill, y -> y.state(0, v), BAD_ARG);
+        for (int v : Setups.WRONG_PAGES) {
+            Check.unchanged("state of page " + v, Setups::fill, y -> y.state(0, v), BAD_ARG);
         }
     }
 
     private static void promise8Shared() {
         SuperpageReserve x = new SuperpageReserve();
-        fillSharing(x);
+        Setups.fillSharing(x);
         for (int v = 0; v < 16; v++) {
             Check.due("shared of page " + v + " after split", x.shared(v), true);
         }
-        for (int v : WRONG_PAGES) {
+        for (int v : Setups.WRONG_PAGES) {
             Check.due("shared of page " + v, x.shared(v), false);
         }
         SuperpageReserve y = new SuperpageReserve();
@@ -334,14 +330,14 @@ public final class PromisesTest {
         none.touch(1, 3);
         Check.due("split of a process without pages", none.split(0), 0);
         Check.due("the other's page then", none.state(1, 3), 0);
-        for (int p : WRONG_PROCESSES) {
-            Check.refused("split of process " + p, PromisesTest::fill, y -> y.split(p), BAD_ARG);
+        for (int p : Setups.WRONG_PROCESSES) {
+            Check.unchanged("split of process " + p, Setups::fill, y -> y.split(p), BAD_ARG);
         }
     }
 
     private static void promise9SplitAgain() {
         SuperpageReserve x = new SuperpageReserve();
-        shareReadOnly(x);
+        Setups.shareReadOnly(x);
         x.protect(1, 2, 0);
         x.unmap(0, 3);
         Check.due("split of the other side", x.split(1), 2);
@@ -351,10 +347,10 @@ public final class PromisesTest {
         Check.due("inUse", x.inUse(), 2);
 
         SuperpageReserve full = new SuperpageReserve();
-        fill(full);
+        Setups.fill(full);
         Check.due("split when full", full.split(0), 8);
         Check.due("inUse after split when full", full.inUse(), 8);
-        touchFirst(full, 0, 16);
+        Setups.touchFirst(full, 0, 16);
         Check.due("split with all pages present", full.split(0), 16);
         Check.due("inUse with all pages shared", full.inUse(), 16);
     }
@@ -389,7 +385,7 @@ public final class PromisesTest {
         Check.due("the state of the read-only page", x.state(1, 2), 2);
 
         SuperpageReserve full = new SuperpageReserve();
-        fill(full);
+        Setups.fill(full);
         Check.due("copy between own pages when full", full.copy(0, 1, 7), 0);
         Check.due("the word copied when full", full.read(0, 7, 2), full.read(0, 1, 2));
     }
@@ -397,7 +393,7 @@ public final class PromisesTest {
     private static void promise10CopyOntoSharedPage() {
         for (int p = 0; p < 2; p++) {
             SuperpageReserve x = new SuperpageReserve();
-            shareReadOnly(x);
+            Setups.shareReadOnly(x);
             Check.due("copy from a shared to a shared page", x.copy(p, 2, 3), 0);
             Check.due("shared of the page copied", x.shared(2), true);
             Check.due("shared of the page copied to", x.shared(3), false);
@@ -405,7 +401,7 @@ public final class PromisesTest {
             Check.due("the other's word", x.read(1 - p, 3, 1), 31);
             Check.due("inUse", x.inUse(), 3);
             SuperpageReserve y = new SuperpageReserve();
-            shareReadOnly(y);
+            Setups.shareReadOnly(y);
             Check.due("copy of a shared page onto itself", y.copy(p, 3, 3), 0);
             Check.due("shared of it", y.shared(3), false);
             Check.due("its word", y.read(p, 3, 1), 31);
@@ -414,30 +410,30 @@ public final class PromisesTest {
     }
 
     private static void promise10CopyRefused() {
-        Check.refused("copy to an absent page when full", PromisesTest::fill, y -> y.copy(0, 1, 8), FULL);
-        Check.refused("copy of an absent page onto itself when full", PromisesTest::fill, y -> y.copy(0, 8, 8), FULL);
-        Check.refused("copy to a shared page when full", PromisesTest::fillSharing, y -> y.copy(1, 1, 8), FULL);
-        Check.refused("copy of a shared page onto itself when full", PromisesTest::fillSharing, y -> y.copy(0, 1, 1), FULL);
-        Check.refused("copy to a read-only page", PromisesTest::shareReadOnly, y -> y.copy(0, 3, 2), READ_ONLY);
-        Check.refused("copy of a read-only page onto itself", PromisesTest::shareReadOnly, y -> y.copy(1, 2, 2), READ_ONLY);
-        Check.refused("copy of an absent page to a read-only one", PromisesTest::shareReadOnly, y -> y.copy(1, 9, 2), READ_ONLY);
-        Check.refused("copy to a read-only shared page when full", y -> {
-            fillSharing(y);
+        Check.unchanged("copy to an absent page when full", Setups::fill, y -> y.copy(0, 1, 8), FULL);
+        Check.unchanged("copy of an absent page onto itself when full", Setups::fill, y -> y.copy(0, 8, 8), FULL);
+        Check.unchanged("copy to a shared page when full", Setups::fillSharing, y -> y.copy(1, 1, 8), FULL);
+        Check.unchanged("copy of a shared page onto itself when full", Setups::fillSharing, y -> y.copy(0, 1, 1), FULL);
+        Check.unchanged("copy to a read-only page", Setups::shareReadOnly, y -> y.copy(0, 3, 2), READ_ONLY);
+        Check.unchanged("copy of a read-only page onto itself", Setups::shareReadOnly, y -> y.copy(1, 2, 2), READ_ONLY);
+        Check.unchanged("copy of an absent page to a read-only one", Setups::shareReadOnly, y -> y.copy(1, 9, 2), READ_ONLY);
+        Check.unchanged("copy to a read-only shared page when full", y -> {
+            Setups.fillSharing(y);
             y.protect(1, 4, 1);
         }, y -> y.copy(1, 0, 4), READ_ONLY);
-        for (int p : WRONG_PROCESSES) {
-            Check.refused("copy in process " + p, PromisesTest::fill, y -> y.copy(p, 0, 1), BAD_ARG);
+        for (int p : Setups.WRONG_PROCESSES) {
+            Check.unchanged("copy in process " + p, Setups::fill, y -> y.copy(p, 0, 1), BAD_ARG);
         }
-        for (int v : WRONG_PAGES) {
-            Check.refused("copy of page " + v, PromisesTest::fill, y -> y.copy(0, v, 1), BAD_ARG);
-            Check.refused("copy to page " + v, PromisesTest::fill, y -> y.copy(0, 1, v), BAD_ARG);
-            Check.refused("copy of page " + v + " to a read-only one", PromisesTest::shareReadOnly, y -> y.copy(0, v, 2), BAD_ARG);
+        for (int v : Setups.WRONG_PAGES) {
+            Check.unchanged("copy of page " + v, Setups::fill, y -> y.copy(0, v, 1), BAD_ARG);
+            Check.unchanged("copy to page " + v, Setups::fill, y -> y.copy(0, 1, v), BAD_ARG);
+            Check.unchanged("copy of page " + v + " to a read-only one", Setups::shareReadOnly, y -> y.copy(0, v, 2), BAD_ARG);
         }
     }
 
     private static void promise11UnmapRange() {
         SuperpageReserve x = new SuperpageReserve();
-        fill(x);
+        Setups.fill(x);
         x.protect(0, 3, 1);
         Check.due("unmapRange over present and absent pages", x.unmapRange(0, 3, 9), 5);
         Check.due("the page before it", x.state(0, 2), 1);
@@ -455,7 +451,7 @@ public final class PromisesTest {
         Check.due("present after all", x.present(1), 0);
 
         SuperpageReserve y = new SuperpageReserve();
-        fillSharing(y);
+        Setups.fillSharing(y);
         Check.due("unmapRange of shared pages", y.unmapRange(0, 14, 15), 2);
         Check.due("shared of the last", y.shared(15), false);
         Check.due("shared of the one before the range", y.shared(13), true);
@@ -463,12 +459,12 @@ public final class PromisesTest {
         Check.due("the other's word", y.read(1, 15, 0), 115);
         Check.due("inUse after shared pages", y.inUse(), 16);
 
-        for (int p : WRONG_PROCESSES) {
-            Check.refused("unmapRange of process " + p, PromisesTest::fill, z -> z.unmapRange(p, 0, 15), BAD_ARG);
+        for (int p : Setups.WRONG_PROCESSES) {
+            Check.unchanged("unmapRange of process " + p, Setups::fill, z -> z.unmapRange(p, 0, 15), BAD_ARG);
         }
-        for (int v : WRONG_PAGES) {
-            Check.refused("unmapRange from " + v, PromisesTest::fill, z -> z.unmapRange(0, v, 15), BAD_ARG);
-            Check.refused("unmapRange to " + v, PromisesTest::fill, z -> z.unmapRange(0, 0, v), BAD_ARG);
+        for (int v : Setups.WRONG_PAGES) {
+            Check.unchanged("unmapRange from " + v, Setups::fill, z -> z.unmapRange(0, v, 15), BAD_ARG);
+            Check.unchanged("unmapRange to " + v, Setups::fill, z -> z.unmapRange(0, 0, v), BAD_ARG);
         }
     }
 
@@ -486,8 +482,8 @@ public final class PromisesTest {
         Check.due("present of the other after split", x.present(0), 16);
         x.unmap(1, 0);
         Check.due("present after unmap", x.present(1), 15);
-        for (int p : WRONG_PROCESSES) {
-            Check.refused("present of process " + p, PromisesTest::fill, y -> y.present(p), BAD_ARG);
+        for (int p : Setups.WRONG_PROCESSES) {
+            Check.unchanged("present of process " + p, Setups::fill, y -> y.present(p), BAD_ARG);
         }
     }
 
@@ -510,7 +506,7 @@ public final class PromisesTest {
         Check.due("inUse after both sides are unmapped", x.inUse(), 8);
 
         SuperpageReserve y = new SuperpageReserve();
-        fillSharing(y);
+        Setups.fillSharing(y);
         Check.due("inUse with 32 pages in 16 frames", y.inUse(), 16);
     }
 
@@ -538,39 +534,8 @@ public final class PromisesTest {
         Check.due("digest that wraps in the sum", y.digest(1), Integer.MAX_VALUE - 1);
         y.protect(1, 0, 1);
         Check.due("digest of a read-only page", y.digest(1), Integer.MAX_VALUE - 1);
-        for (int p : WRONG_PROCESSES) {
-            Check.refused("digest of process " + p, PromisesTest::fill, z -> z.digest(p), 0);
-        }
-    }
-
-    /** Pages 0 to 7 of both processes in 16 frames, every word another number. */
-    private static void fill(SuperpageReserve x) {
-        for (int i = 0; i < 64; i++) {
-            x.write(i % 2, i / 8, i / 2 % 4, 200 + i);
-        }
-    }
-
-    /** All 16 pages of both processes, every one shared, in 16 frames. */
-    private static void fillSharing(SuperpageReserve x) {
-        for (int v = 0; v < 16; v++) {
-            x.write(0, v, 0, 100 + v);
-        }
-        x.split(0);
-    }
-
-    /** Shared pages 2 (read-only on both sides) and 3 (writable on both sides). */
-    private static void shareReadOnly(SuperpageReserve x) {
-        for (int w = 0; w < 4; w++) {
-            x.write(0, 2, w, 20 + w);
-            x.write(0, 3, w, 30 + w);
-        }
-        x.protect(0, 2, 1);
-        x.split(0);
-    }
-
-    private static void touchFirst(SuperpageReserve x, int p, int count) {
-        for (int v = 0; v < count; v++) {
-            x.touch(p, v);
+        for (int p : Setups.WRONG_PROCESSES) {
+            Check.unchanged("digest of process " + p, Setups::fill, z -> z.digest(p), 0);
         }
     }
 }
