@@ -1,8 +1,8 @@
 /** Many runs of mixed calls, the same at every start, each answer compared with the model's. */
 public final class ModelTest {
     private static final int RUNS = 20000;
-    // With the 181 looks at the end a run stays below the 512 calls that an object is promised for.
-    private static final int LONGEST_RUN = 320;
+    private static final int PROMISED_CALLS = 512;
+    private static final int LOOKS = 181;
     private static final int[] ODD_NUMBERS = {-1, 16, 2, 4, 31, 64, Integer.MIN_VALUE, Integer.MAX_VALUE};
 
     private static long seed = 1;
@@ -22,13 +22,17 @@ public final class ModelTest {
     private static void oneRun(int run) {
         SuperpageReserve x = new SuperpageReserve();
         Model model = new Model();
-        int calls = 1 + below(LONGEST_RUN);
+        // Some runs go on to the last call that is promised; the others leave room for a look at everything.
+        boolean looks = run % 4 != 0;
+        int calls = looks ? 1 + below(PROMISED_CALLS - LOOKS) : PROMISED_CALLS;
         // Runs differ in how many pages they use, so that some crowd few pages and some fill the memory.
         int pages = 1 + below(16);
         for (int call = 0; call < calls; call++) {
             oneCall("run " + run + ", call " + call + ": ", x, model, pages);
         }
-        compareAll("run " + run + ", at its end: ", x, model);
+        if (looks) {
+            compareAll("run " + run + ", at its end: ", x, model);
+        }
     }
 
     private static void oneCall(String where, SuperpageReserve x, Model model, int pages) {

@@ -1,6 +1,6 @@
 import java.util.Collections;
 
-/** One method for each promise of the document: ordinary inputs, the edges it names, wrong inputs. */
+/** One or more methods for each promise of the document: ordinary inputs, the edges it names, wrong inputs. */
 public final class PromisesTest {
     private static final int BAD_ARG = -1;
     private static final int FULL = -2;
